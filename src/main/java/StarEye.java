@@ -1086,7 +1086,7 @@ public final class StarEye {
         int looks;
         int holes;
         int firstHole;
-        private int differing;
+        private int wanting;
         private int choice;
         private int doublePairs;
         private boolean hasLooked = false;
@@ -1109,7 +1109,7 @@ public final class StarEye {
             looks = 0;
             holes = 0;
             firstHole = NONE;
-            differing = 0;
+            wanting = 0;
             for (int i = 0; i < LOOKS_A_SIDE && i * book.step <= SKY_END; i++) {
                 for (int j = 0; j < LOOKS_A_SIDE && j * book.step <= SKY_END; j++) {
                     lookFrom(book, i * book.step, j * book.step);
@@ -1135,17 +1135,25 @@ public final class StarEye {
             addWant(seen, Math.min(count, book.needs));
         }
 
-        /** LOOKS that see the same STARS want the same. */
+        /** Of what LOOKS want only that is kept which no other one's want brings along: so choosing has less to try. */
         private void addWant(int seen, int want) {
-            for (int i = 0; i < differing && i < LOOKS; i++) {
-                if (sees[i] == seen) {
+            int kept = 0;
+            for (int i = 0; i < wanting && i < LOOKS; i++) {
+                if ((sees[i] & ~seen) == 0 && wants[i] >= want) {
                     return;
                 }
+                boolean brought = (seen & ~sees[i]) == 0 && want >= wants[i];
+                if (!brought) {
+                    sees[kept] = sees[i];
+                    wants[kept] = wants[i];
+                    kept++;
+                }
             }
-            if (want > 0 && differing < LOOKS) {
-                sees[differing] = seen;
-                wants[differing] = want;
-                differing++;
+            wanting = kept;
+            if (want > 0 && wanting < LOOKS) {
+                sees[wanting] = seen;
+                wants[wanting] = want;
+                wanting++;
             }
         }
 
@@ -1179,7 +1187,7 @@ public final class StarEye {
         }
 
         private boolean canMeet(int taken, int open, int left) {
-            for (int i = 0; i < differing && i < LOOKS; i++) {
+            for (int i = 0; i < wanting && i < LOOKS; i++) {
                 int missing = wants[i] - Integer.bitCount(sees[i] & taken);
                 if (missing > left || missing > Integer.bitCount(sees[i] & open)) {
                     return false;
@@ -1677,8 +1685,10 @@ public final class StarEye {
                 return;
             }
             int open = named < goal ? openStars(point, book) : 0;
-            for (int star = 0; star < book.stars && open != 0; star++) {
-                if ((open >>> star & 1) != 0 && liesAlike(point, star, book)) {
+            for (int tried = 0; tried < STARS && open != 0; tried++) {
+                int star = Integer.numberOfTrailingZeros(open);
+                open &= open - 1;
+                if (book.has(star) && liesAlike(point, star, book)) {
                     stars[point] = star;
                     nameFrom(point + 1, named + 1, picture, book);
                 }
@@ -1697,7 +1707,7 @@ public final class StarEye {
         }
 
         private int openStars(int point, Book book) {
-            int open = -1;
+            int open = book.stars < STARS ? (1 << book.stars) - 1 : -1;
             for (int before = 0; before < point && before < POINTS; before++) {
                 if (book.has(stars[before])) {
                     open &= fits[pairOf(before, point) * STARS + stars[before]];
