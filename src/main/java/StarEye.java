@@ -703,7 +703,7 @@ public final class StarEye {
                 value = ownWord();
                 kind = at - place > WORD_LETTERS ? BAD : WORD;
             } else if (kind == NUMBER) {
-                kind = at - place > NUMBER_DIGITS || isLetter(byteAt(at)) ? BAD : NUMBER;
+                kind = at - place > NUMBER_DIGITS || sortOf(byteAt(at)) == WORD ? BAD : NUMBER;
             } else if (kind == SIGN) {
                 value = byteAt(at);
                 at++;
@@ -722,10 +722,10 @@ public final class StarEye {
 
         /** The kind of TOKEN that begins with a sign. */
         private int sortOf(int sign) {
-            if (isLetter(sign)) {
+            if (sign >= 'a' && sign <= 'z') {
                 return WORD;
             }
-            if (isDigit(sign)) {
+            if (sign >= '0' && sign <= '9') {
                 return NUMBER;
             }
             boolean always = sign == ';' || sign == '-';
@@ -739,10 +739,6 @@ public final class StarEye {
 
         static boolean isDigit(int sign) {
             return sign >= '0' && sign <= '9';
-        }
-
-        private static boolean isLetter(int sign) {
-            return sign >= 'a' && sign <= 'z';
         }
 
         boolean isAtWord(int word) {

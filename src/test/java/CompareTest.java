@@ -56,7 +56,8 @@ final class CompareTest {
   }
 
   private int time() {
-    return below(30) == 0 ? r.nextInt() : Math.max(0, oracle.about(3) - below(4) * below(3)) + (below(15) == 0 ? 1 : 0);
+    int back = below(3) == 0 ? below(4) * below(3) : 0;
+    return below(30) == 0 ? r.nextInt() : Math.max(0, oracle.about(3) - back) + (below(15) == 0 ? 1 : 0);
   }
 
   private boolean put(String text) {
@@ -252,7 +253,7 @@ final class CompareTest {
   private String bookText() {
     StringBuilder all = new StringBuilder();
     int newWide = below(3) == 0 ? 16 : 4 + below(13);
-    int newUnit = 1 + below(9);
+    int newUnit = below(3) == 0 ? 1 + below(9) : 4 + below(6);
     List<String> lines = new ArrayList<>();
     if (below(6) != 0) lines.add("eye wide " + newWide + " unit " + newUnit + " far " + (below(2) == 0 ? 1 + below(999) : 40 + below(300)) + ";");
     else { newWide = 8; newUnit = 5; }
@@ -286,17 +287,17 @@ final class CompareTest {
 
   private List<int[]> sky(int field) {
     List<int[]> sky = new ArrayList<>();
-    int most = below(4) == 0 ? 32 : below(20);
-    int mode = below(4);
+    int most = below(4) == 0 ? 32 : below(4) == 0 ? below(6) : 5 + below(15);
+    int mode = Math.min(3, below(6));
     int ox = below(700);
     int oy = below(700);
     int step = 20 + below(15);
     for (int i = 0; i < 400 && sky.size() < most; i++) {
       int x = below(1000);
       int y = below(1000);
-      if (mode == 1) {
-        x = ox + below(Math.max(60, 2 * field));
-        y = oy + below(Math.max(60, 2 * field));
+      if (mode == 1 || mode == 0 && below(3) != 0) {
+        x = ox + below(Math.max(60, field + field / 2));
+        y = oy + below(Math.max(60, field + field / 2));
       } else if (mode == 2) {
         x = ox + step * below(7);
         y = oy + step * below(7);
@@ -378,7 +379,7 @@ final class CompareTest {
 
   private boolean tellRules() {
     StringBuilder all = new StringBuilder();
-    for (int i = below(5); i >= 0; i--) all.append("trust ").append(below(100)).append(" when ").append(either(below(4))).append(";");
+    for (int i = below(3); i >= 0; i--) all.append("trust ").append(below(100)).append(" when ").append(either(below(below(4) + 1))).append(";");
     String text = all.toString();
     if (below(4) == 0) text = spoil(text);
     if (!same("end", eye.end(0), oracle.end(0)) || !tell(text)) return false;

@@ -25,6 +25,10 @@ final class ImagesTest {
     Check.due("back 2", c.eye.back(2), 2);
     Check.due("the other 1", c.eye.dot(1, 0, 2, 0), 9);
     Check.due("back 0", c.eye.back(0), 0);
+    Check.due("another first one", c.stars(8, 6, 6, 4), 0);
+    Check.due("its light", c.eye.dot(0, 0, 2, 0), 4);
+    c.eye.back(1);
+    Check.due("the first one that was kept", c.eye.dot(0, 0, 2, 0), 9);
     Check.due("back 2 once more", c.eye.back(2), 2);
     c.eye.untell(0);
     Check.due("kept anew", c.eye.image(0), 2);

@@ -182,6 +182,19 @@ final class NamingsTest {
     Check.due("bar 9 of 1/9", with("off 0;bar 9;" + TRIANGLE, seen).eye.told(0, 0), 1);
     Check.due("bar 10 of 1/9", with("off 0;bar 10;" + TRIANGLE, seen).eye.told(0, 0), 0);
     Check.due("no naming", with("off 0;" + five, 2, 2, 9).eye.told(0, 0), 0);
+    // 12 stars, ODDS of 1/99: too much for a bar of 100, which is that of a BOOK without one
+    String twelve = "star xa at 400 400 light 1;star xb at 400 380 light 1;star xc at 424 348 light 1;star xd at 424 328 light 1;"
+        + "star xe at 408 316 light 1;star xf at 392 304 light 1;star xg at 372 304 light 1;star xh at 360 288 light 1;"
+        + "star xi at 388 364 light 1;star xj at 404 352 light 1;star xk at 392 336 light 1;star xl at 376 348 light 1;";
+    int[] bars = {1, 1, 99, 1, 100, 0, 9999, 0};
+    for (int i = -1; i < 4; i++) {
+      Check c = new Check();
+      c.book("eye wide 16 unit 4 far 9;off 0;" + (i < 0 ? "" : "bar " + bars[2 * i] + ";") + twelve);
+      c.stars(16, 6, 13, 9, 0, 0, 8, 3, 4, 7);
+      Check.due("1 by", c.eye.odds(0, 0, 0, 0), 1);
+      Check.due("99", c.eye.odds(0, 0, 1, 0), 99);
+      Check.due("told by bar " + i, c.eye.told(0, 0), i < 0 ? 0 : bars[2 * i + 1]);
+    }
     Check.due("four namings", with("off 0;bar 1;" + SQUARE, 2, 2, 9, 10, 2, 8, 10, 10, 7).eye.told(0, 0), 0);
   }
 

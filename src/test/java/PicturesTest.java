@@ -9,6 +9,7 @@ final class PicturesTest {
     noise();
     smears();
     specks();
+    specksInCorners();
     atMostTwelveDots();
     wrongInputs();
     Check.finish("PicturesTest");
@@ -38,6 +39,9 @@ final class PicturesTest {
     Check.due("picture", c.stars(8), 2);
     Check.due("untell at the same time", c.eye.untell(2), true);
     Check.due("2 never counts", c.eye.dots(2, 0, 10), -1);
+    c.stars(8);
+    c.book("");
+    for (int picture = 0; picture < 4; picture++) Check.due("untell behind another book", c.eye.untell(picture), false);
   }
 
   private static void later() {
@@ -189,6 +193,20 @@ final class PicturesTest {
     Check.due("no speck there", c.eye.dots(3, 2, 2), 0);
     c.stars(8, 4, 3, 9);
     Check.due("not in each", c.eye.dots(0, 2, 2), 0);
+  }
+
+  private static void specksInCorners() {
+    Check c = new Check();
+    for (int i = 0; i < 3; i++) c.stars(8, 0, 0, 9, 7, 0, 8, 0, 7, 7, 7, 7, 6);
+    Check.due("four corners", c.eye.dots(1, 2, 0), 4);
+    c.eye.speckless(7, 0, true);
+    Check.due("but one", c.eye.dots(1, 2, 0), 3);
+    Check.due("which is a POINT", c.eye.point(1, 0, 0), 1);
+    c.book("eye wide 16 unit 1 far 1;");
+    for (int i = 0; i < 3; i++) c.stars(16, 15, 15, 9, 15, 0, 8, 0, 15, 7);
+    Check.due("16 wide", c.eye.dots(2, 2, 0), 3);
+    c.eye.speckless(15, 15, true);
+    Check.due("but the last", c.eye.dot(2, 0, 3, 0), 0);
   }
 
   private static void atMostTwelveDots() {

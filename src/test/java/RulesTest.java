@@ -49,7 +49,7 @@ final class RulesTest {
     String[] hold = {"1", "2", "9999", "not 0", "not not 5", "0 or 3", "3 or 0", "2 and 3", "1 < 2", "2 > 1", "2 = 2", "3 - 2 - 1 = 0",
         "3 - (2 - 1) = 2", "1 - 2 < 0", "0 - 1", "not 1 = 2", "(not 1) = 0", "not (1 = 2)", "1 or 0 and 0", "not 0 or 1", "not 1 or 1",
         "(3 and 5) = 1", "(3 or 5) = 1", "(not 0) = 1", "(not 7) = 0", "(5) = 5", "(1 < 2) + (2 < 1) + (3 = 3) = 2", "((4)) + 1 = 5",
-        "light = 9 and dots = 1", "(dots + light) - 10 + 1", "not 1 and 1 or 1", "40 - 39 = dots"};
+        "light = 9 and dots = 1", "(1 < 2) = 1", "(2 > 1) = 1", "(2 = 2) = 1", "(2 < 1) = 0", "(1 > 2) = 0", "(1 = 2) = 0", "(dots + light) - 10 + 1", "not 1 and 1 or 1", "40 - 39 = dots"};
     for (String one : hold) holds(c, 0, one, true);
     String[] dont = {"0", "0000", "not 1", "not not 0", "0 or 0", "2 and 0", "0 and 2", "2 < 2", "2 > 2", "1 = 2", "1 - 1",
         "(1 or 0) and 0", "not (0 or 1)", "not 0 and 0", "(3 and 5) = 5", "0 < 0 or 0 > 0", "dots - 1", "1 < 0 - 1"};

@@ -7,6 +7,7 @@ final class SkyTest {
     spent();
     held();
     doubles();
+    anotherBook();
     Check.finish("SkyTest");
   }
 
@@ -131,6 +132,26 @@ final class SkyTest {
     Check.due("17 stars", c.eye.chosen(0), -2);
     Check.due("which of 17", c.eye.chosen(1), -2);
     Check.due("what 2 of 17", c.eye.chosen(2), -1);
+  }
+
+  /** What was worked out for one BOOK is not answered for the next. */
+  private static void anotherBook() {
+    Check c = new Check();
+    c.book("step 500 needs 3;off 5;" + ROUND);
+    int[] first = {4, 3, 0, 3, 7, 4, 0};
+    int[] second = {4, 3, 0, 1, 1, 3, 1};
+    for (int round = 0; round < 4; round++) {
+      int[] due = round % 2 == 0 ? first : second;
+      for (int what = 0; what < 3; what++) Check.due("looks of book " + round, c.eye.looks(what), due[what]);
+      for (int what = 0; what < 2; what++) Check.due("chosen of book " + round, c.eye.chosen(what), due[3 + what]);
+      Check.due("held of book " + round, c.eye.held(99999), due[5]);
+      Check.due("doubles of book " + round, c.eye.doubles(), due[6]);
+      // seen from c, a and b are 100 and 100 away
+      c.book(round % 2 == 0 ? "step 500 needs 1;star a at 500 500 light 1;star b at 700 500 light 1;star c at 600 500 light 1;"
+          : "step 500 needs 3;off 5;" + ROUND);
+    }
+    c.book("bar 0;");
+    Check.due("a FAULT changes nothing", c.eye.chosen(1), 7);
   }
 
   private static void held() {

@@ -298,6 +298,15 @@ final class TextsTest {
     c.badRules("trust 1 when -1;", 2, 13);
     c.badRules("trust 1 when 1 and;", 2, 18);
     c.badRules("trust 1 when or 1;", 2, 13);
+    c.badRules("trust 1 when and;", 2, 13);
+    c.badRules("trust 1 when when;", 2, 13);
+    c.badRules("trust 1 when at;", 2, 13);
+    c.badRules("trust 1 when 1 or 1 or;", 2, 22);
+    c.badRules("trust 1 when 1 and 1 1;", 2, 21);
+    c.badRules("trust 1 when (1 or (2;", 2, 21);
+    c.badRules("trust 1 when not;", 2, 16);
+    c.badRules("trust 1 when 1 <;", 2, 16);
+    c.badRules("trust 1 when 1 +;", 2, 16);
     c.badRules("trust 1 when (1;", 2, 15);
     c.badRules("trust 1 when 1);", 2, 14);
     c.badRules("trust 1 when ();", 2, 14);
