@@ -114,15 +114,13 @@ final class Edge {
     text.append(" | ").append(e.looks(0)).append(' ').append(e.looks(2)).append(' ').append(e.chosen(1));
     text.append(' ').append(e.held(40)).append(' ').append(e.doubles()).append(' ').append(e.length(0, 1));
     int time = e.about(3);
-    for (int k = time; k >= time - 1; k--) {
-      for (int p = 0; p < e.about(1); p++) {
-        text.append(" | ").append(p);
-        for (int what = 0; what < 4; what++) text.append(' ').append(e.dots(p, what, k));
-        text.append(' ').append(e.trust(p, k)).append(' ').append(e.namings(p, 0, k));
-      }
-      text.append(" | ").append(e.believed(k));
+    int pictures = e.about(1);
+    for (int p = 0; p < pictures; p++) {
+      text.append(" | ").append(p).append(' ').append(e.dots(p, 0, time - 1));
+      for (int what = 0; what < 4; what++) text.append(' ').append(e.dots(p, what, time));
+      text.append(' ').append(e.dot(p, 0, 0, time)).append(' ').append(e.trust(p, time)).append(' ').append(e.namings(p, 0, time));
     }
-    return text.toString();
+    return text.append(" | ").append(e.believed(time)).append(' ').append(e.believed(time - 1)).toString();
   }
 
   // ---- the document
@@ -135,7 +133,12 @@ final class Edge {
   static void compareWithDocument() throws Exception {
     mustHaveAsked();
     asked = 1;
-    Map<String, String> parts = parts(Files.readString(Path.of("../shared/DOC.md")));
+    Path document = Path.of("../shared/DOC.md");
+    if (!Files.exists(document)) {
+      System.out.println("there is no " + document + " to compare the sentences with");
+      return;
+    }
+    Map<String, String> parts = parts(Files.readString(document));
     for (String cited : CITED.keySet()) Check.due("the document has '" + cited + "'", parts.containsKey(cited) ? 1 : 0, 1);
     for (Map.Entry<String, String> part : parts.entrySet()) {
       String text = part.getValue();

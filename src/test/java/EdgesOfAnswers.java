@@ -265,6 +265,9 @@ final class EdgesOfAnswers {
     }
     Edge.due("to one that is not told yet", e.shift(0, 2, 0, 0, 9), GAP);
     without(GAP, (x, picture, k) -> x.shift(picture, picture, 0, 0, k));
+    // a POINT that is not named is no STAR -1
+    Check stray = Edge.seen(EYE + EdgesOfPromises.STARS, 16, 15, 15, 9, 2, 2, 8, 10, 2, 7, 2, 8, 6);
+    EdgesOfPromises.numbers("STAR beside a stray POINT", stray.eye, 2, GAP, (x, star) -> x.shift(0, 0, star, 0, 0));
     // a STAR that no NAMING names
     Check c = Edge.seen(EYE + EdgesOfPromises.STARS + "star d at 900 900 light 1;", 16, 2, 2, 9, 10, 2, 8, 2, 8, 7);
     EdgesOfPromises.numbers("STAR", c.eye, 2, GAP, (x, star) -> x.shift(0, 0, star, 0, 0));
@@ -403,30 +406,31 @@ final class EdgesOfAnswers {
     c.eye.speckless(3, 4, true);
     String first = Edge.all(c.eye);
     Edge.due("image 0", c.eye.image(0), 3);
-    for (int i = 0; i < 9; i++) c.stars(16, i, 1, 9);
+    for (int i = 0; i < 2; i++) c.stars(16, i, 1, 9);
     c.eye.later(1000);
     c.eye.untell(0);
     c.eye.speckless(3, 4, false);
     c.eye.speckless(15, 15, true);
     String second = Edge.all(c.eye);
-    Edge.due("image 2", c.eye.image(2), 12);
-    Edge.due("full", c.stars(16), -3);
-    for (int turn = 0; turn < 2; turn++) {
-      Edge.due("back 0", c.eye.back(0), 3);
-      Edge.same("as it was", Edge.all(c.eye), first);
-      Edge.due("it may go on", c.eye.untell(2), true);
-      c.eye.later(7);
-      Edge.due("and have another PICTURE", c.stars(16), 3);
-      Edge.due("back 2", c.eye.back(2), 12);
-      Edge.same("as it was then", Edge.all(c.eye), second);
-      c.eye.later(0);
-    }
+    Edge.due("image 2", c.eye.image(2), 5);
+    Edge.due("back 0", c.eye.back(0), 3);
+    Edge.same("as it was", Edge.all(c.eye), first);
+    Edge.due("it may go on", c.eye.untell(2), true);
+    c.eye.later(7);
+    Edge.due("and have another PICTURE", c.stars(16), 3);
+    Edge.due("back 2", c.eye.back(2), 5);
+    Edge.same("as it was then", Edge.all(c.eye), second);
+    Edge.due("back 0 once more", c.eye.back(0), 3);
+    Edge.due("the PICTURE that is not UNTOLD there", c.eye.dots(2, 0, 10), 4);
+    Edge.due("back 2 once more", c.eye.back(2), 5);
+    kept();
     Edge.of("Promise 34", "NONE, doing nothing, if nothing was.");
     Edge.due("back 1", c.eye.back(1), -1);
     for (int box : new int[] {MIN, -1, 3, 4, MAX}) Edge.due("back " + box, c.eye.back(box), -1);
     Edge.same("all stays", Edge.all(c.eye), second);
+    c = EdgesOfPromises.three();
+    for (int box = 0; box < 3; box++) c.eye.image(box);
     c.book("");
-    c.eye.later(1);
     c.stars(8);
     String last = Edge.all(c.eye);
     for (int box = 0; box < 3; box++) Edge.due("behind another BOOK, back " + box, c.eye.back(box), -1);
@@ -438,6 +442,46 @@ final class EdgesOfAnswers {
     c.eye.back(0);
     Edge.due("RULES stay", c.eye.about(2), 1);
     Edge.due("the TAPE stays", c.eye.about(4), 3);
+  }
+
+  /** PICTURES of the same number, TOLD at other times, and other PIXELS in each of two boxes. */
+  private static void kept() {
+    Check c = new Check();
+    c.eye.image(1);
+    c.stars(8, 1, 1, 9);
+    c.eye.later(1);
+    c.stars(8, 2, 2, 8);
+    c.eye.speckless(1, 2, true);
+    c.eye.image(0);
+    Edge.due("back to none", c.eye.back(1), 0);
+    Edge.due("the TIME", c.eye.about(3), 0);
+    Edge.due("PIXELS", c.eye.about(6), 0);
+    c.eye.later(5);
+    for (int i = 0; i < 3; i++) c.stars(8, 3, 3, 7 - i);
+    c.eye.untell(1);
+    c.eye.speckless(2, 1, true);
+    c.eye.speckless(7, 7, true);
+    c.eye.image(2);
+    for (int turn = 0; turn < 2; turn++) {
+      Edge.due("back 0", c.eye.back(0), 2);
+      int[] light = {9, 8, -1};
+      for (int p = 0; p < 3; p++) Edge.due("LIGHT of " + p, c.eye.dot(p, 0, 2, 1), light[p]);
+      Edge.due("0 was TOLD at 0", c.eye.dots(0, 0, 0), 1);
+      Edge.due("1 was not", c.eye.dots(1, 0, 0), -1);
+      Edge.due("1 is not UNTOLD", c.eye.dots(1, 0, 100000), 1);
+      Edge.due("PIXELS", c.eye.about(6), 1);
+      Edge.due("1, 2 is told", c.eye.speckless(1, 2, true), false);
+      Edge.due("2, 1 is not", c.eye.speckless(2, 1, false), false);
+      Edge.due("back 2", c.eye.back(2), 3);
+      int[] other = {7, -1, 5};
+      for (int p = 0; p < 3; p++) Edge.due("LIGHT of " + p, c.eye.dot(p, 0, 2, 5), other[p]);
+      Edge.due("0 was not TOLD at 4", c.eye.dots(0, 0, 4), -1);
+      Edge.due("the TIME", c.eye.about(3), 5);
+      Edge.due("PIXELS", c.eye.about(6), 2);
+      Edge.due("2, 1 is told", c.eye.speckless(2, 1, true), false);
+      Edge.due("7, 7 is told", c.eye.speckless(7, 7, true), false);
+      Edge.due("1, 2 is not", c.eye.speckless(1, 2, false), false);
+    }
   }
 
   private static void about() {

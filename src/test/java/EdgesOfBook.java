@@ -22,6 +22,7 @@ final class EdgesOfBook {
     stars();
     once();
     notTold();
+    notToldAgain();
     ranges();
     places();
     faults();
@@ -307,6 +308,30 @@ final class EdgesOfBook {
     Check two = Edge.goodBook(sky(0, 0, 80, 0), 2);
     int[][] held = {{5, 0}, {6, 1}, {15, 1}, {16, 2}};
     for (int[] one : held) Edge.due("held " + one[0], two.eye.held(one[0]), one[1]);
+  }
+
+  /** What other BOOKS told before is not told by this one. */
+  private static void notToldAgain() {
+    String told = "eye wide 16 unit 9 far 999;noise 9;off 5;bar 9999;step 999 needs 6;lean 99 -99;room star 99 pair 99;";
+    Check c = new Check();
+    for (int i = 0; i < 3; i++) Edge.due("told otherwise", c.book(told), 0);
+    for (int i = 0; i < 2; i++) {
+      Edge.due("another BOOK", c.book(sky(100, 100, 130, 100, 100, 120)), 3);
+      Edge.due("wide 8", c.stars(8, 0, 0, 3, 6, 0, 3, 0, 4, 3), 0);
+      Edge.due("noise 2", c.eye.dots(0, 0, 0), 3);
+      Edge.due("unit 5", c.eye.stretch(0, 0, 0), 1000);
+      Edge.due("lean 0", c.eye.look(0, 0, 0, 0, 0), 1175);
+      Edge.due("lean 0, too", c.eye.look(0, 0, 1, 0, 0), 1175);
+      // 3 STARS, bar 100 and ODDS of 1/9
+      Edge.due("bar 100", c.eye.told(0, 0), 0);
+      Edge.due("off 2", c.eye.follow(0, 0, 20, 0, 0, 0), 0);
+      Edge.due("off no more than 2", c.eye.follow(0, 0, 21, 0, 0, 0), -1);
+      Edge.due("step 100", c.eye.looks(0), 100);
+      Edge.due("far 40, needs 3", c.eye.looks(1), 99);
+      Edge.due("needs 3", c.eye.chosen(0), 3);
+      Edge.due("room", c.eye.held(29), 2);
+      Edge.due("room for 3, 3 pairs", c.eye.held(30), 3);
+    }
   }
 
   private static void range(String before, String behind, int least, int most) {

@@ -86,6 +86,13 @@ final class EdgesOfFollowing {
     c = two("off 2;", first, new int[] {6, 4, 9, 9, 4, 8});
     Edge.due("POINT 0", c.eye.follow(0, 1, 0, 0, 0, 0), 0);
     Edge.due("POINT 1 has none", c.eye.follow(0, 1, 0, 0, 1, 0), -1);
+    // what POINT 0 took is not given to POINT 2, though POINT 1 took another since
+    c = two("off 5;", new int[] {4, 4, 9, 12, 12, 8, 4, 6, 7}, new int[] {4, 5, 9, 12, 12, 8, 4, 9, 7});
+    int[] due = {0, 1, 2};
+    for (int i = 0; i < 3; i++) Edge.due("of three, POINT " + i, c.eye.follow(0, 1, 0, 0, i, 0), due[i]);
+    c = two("off 2;", new int[] {4, 4, 9, 12, 12, 8, 4, 6, 7}, new int[] {4, 5, 9, 12, 12, 8});
+    int[] lost = {0, 1, -1};
+    for (int i = 0; i < 3; i++) Edge.due("of three to two, POINT " + i, c.eye.follow(0, 1, 0, 0, i, 0), lost[i]);
     // all twelve
     StringBuilder rows = new StringBuilder();
     for (int i = 0; i < 16; i++) rows.append(i == 2 || i == 4 ? "0090909090909000;" : "0000000000000000;");

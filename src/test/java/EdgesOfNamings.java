@@ -14,6 +14,7 @@ final class EdgesOfNamings {
     lengths();
     fits();
     firstSix();
+    pointsAsKnown();
     threeAtLeast();
     ofItsOwn();
     eachTwo();
@@ -127,6 +128,38 @@ final class EdgesOfNamings {
     }
   }
 
+  /** POINTS that are SPECKS as known at k are not named then, and those behind them move up. */
+  private static void pointsAsKnown() {
+    Check c = seen(EYE + "off 0;" + sky(100, 100, 140, 100, 100, 130), 15, 15, 9, 2, 2, 8, 10, 2, 7, 2, 8, 6);
+    c.stars(16, 15, 15, 9);
+    c.eye.later(1);
+    c.stars(16, 15, 15, 9);
+    c.eye.later(1);
+    for (int i = 0; i < 2; i++) {
+      Edge.due("POINT 1 at 0", c.eye.named(0, 0, 1, 0), 0);
+      Edge.due("WANDERERS at 0", c.eye.wanderers(0, 0), 1);
+      Edge.due("POINT 1 at 1", c.eye.named(0, 0, 1, 1), 1);
+      Edge.due("WANDERERS at 1", c.eye.wanderers(0, 1), 0);
+    }
+    c.eye.untell(1);
+    c.eye.untell(2);
+    for (int i = 0; i < 3; i++) c.stars(16, 2, 2, 9);
+    for (int i = 0; i < 2; i++) {
+      Edge.due("NAMINGS at 1", c.eye.namings(0, 0, 1), 1);
+      Edge.due("NAMINGS at 2, where POINT 0 is a SPECK", c.eye.namings(0, 0, 2), 0);
+      Edge.due("they name", c.eye.namings(0, 1, 2), 0);
+      Edge.due("named", c.eye.named(0, 0, 0, 2), -1);
+    }
+    Edge.due("told to be no SPECK", c.eye.speckless(2, 2, true), true);
+    Edge.due("NAMINGS again", c.eye.namings(0, 0, 2), 1);
+    // the 7th POINT moves up behind a SPECK
+    c = seen(EYE + "off 0;" + sky(100, 100, 140, 100, 100, 130), 2, 2, 9, 10, 2, 9, 4, 4, 8, 13, 6, 8, 6, 13, 8, 13, 12, 8, 2, 8, 5);
+    Edge.due("as the 7th", c.eye.namings(0, 0, 0), 0);
+    for (int i = 0; i < 2; i++) c.stars(16, 13, 12, 8);
+    Edge.due("as the 6th", c.eye.namings(0, 0, 0), 1);
+    Edge.due("its STAR", c.eye.named(0, 0, 5, 0), 2);
+  }
+
   private static void threeAtLeast() {
     of("3 at least");
     String three = EYE + "off 0;" + sky(100, 100, 140, 100, 100, 130);
@@ -138,6 +171,8 @@ final class EdgesOfNamings {
     Edge.due("2 STARS", seen(EYE + "off 0;" + sky(100, 100, 140, 100), TRIANGLE).eye.namings(0, 0, 0), 0);
     Edge.due("no STARS", seen(EYE, TRIANGLE).eye.namings(0, 0, 0), 0);
     Edge.due("3 POINTS of which 2 FIT", seen(three, 2, 2, 9, 10, 2, 8, 3, 9, 7).eye.namings(0, 0, 0), 0);
+    Edge.due("they name none", seen(three, 2, 2, 9, 10, 2, 8, 3, 9, 7).eye.namings(0, 1, 0), 0);
+    Edge.due("6 POINTS of which 2 FIT", seen(three, 2, 2, 9, 10, 2, 8, 3, 9, 7, 15, 15, 6, 0, 15, 5, 13, 4, 4).eye.namings(0, 1, 0), 0);
     Edge.due("a third STAR", seen(EYE + "off 0;" + sky(100, 100, 140, 100, 500, 500, 100, 130), TRIANGLE).eye.named(0, 0, 2, 0), 3);
   }
 
@@ -160,6 +195,12 @@ final class EdgesOfNamings {
     Edge.due("0 and 1 do not", seen(book, 3, 2, 9, 10, 2, 8, 2, 8, 7).eye.namings(0, 0, 0), 0);
     // 400 and 300, but the third LENGTH is not 500
     Edge.due("1 and 2 do not", seen(book, 2, 5, 9, 10, 5, 8, 8, 5, 7).eye.namings(0, 0, 0), 0);
+    // what FITS in one PICTURE is not kept for the next: its POINTS are 400, 350 and 531 apart
+    Check twice = seen(book, TRIANGLE);
+    Edge.due("the first PICTURE", twice.eye.namings(0, 0, 0), 1);
+    twice.stars(16, 2, 2, 9, 10, 2, 8, 2, 9, 7);
+    Edge.due("the second PICTURE", twice.eye.namings(1, 0, 0), 0);
+    Edge.due("the first once more", twice.eye.namings(0, 0, 0), 1);
     // four STARS, the fourth POINT FITS two of them but not the third
     String four = EYE + "off 0;" + sky(100, 100, 140, 100, 100, 130, 140, 130);
     Check c = seen(four, 2, 2, 9, 10, 2, 8, 2, 8, 7, 10, 8, 6);

@@ -90,6 +90,18 @@ final class EdgesOfPictures {
       Edge.badPicture(FOUR, whole.substring(0, cut) + "  ", 2, cut + 2);
     }
     Edge.goodPicture(FOUR, whole);
+    // nothing of a text with a FAULT, or of one of another BOOK, is seen in the next one
+    Check c = new Check();
+    c.book(SIXTEEN + "noise 2;");
+    c.picture("9999999999999999;".repeat(15));
+    c.picture("2222222222222222;".repeat(16));
+    Edge.due("noise alone", c.eye.dots(0, 0, 0), 0);
+    c.picture("9999999999999999;".repeat(16) + ";");
+    c.book(FOUR + "noise 0;");
+    c.picture(whole);
+    Edge.due("4 wide behind 16", c.eye.dots(0, 0, 0), 0);
+    c.picture("0000;0000;0000;0009;");
+    Edge.due("PIXELS", c.eye.dot(1, 0, 4, 0), 1);
   }
 
   private static void twelve() {
@@ -168,6 +180,14 @@ final class EdgesOfPictures {
     Edge.due("the last row and the first", Edge.seen("", 8, 5, 7, 9, 5, 0, 9).eye.dots(0, 0, 0), 2);
     Edge.due("16 wide, a row's end", Edge.seen(SIXTEEN, 16, 15, 3, 9, 0, 4, 9).eye.dots(0, 0, 0), 2);
     Edge.due("nothing but noise", Edge.seen("", 8).eye.dots(0, 0, 0), 0);
+    String[] shapes = {"0090;0090;9990;0000;", "9990;9000;0000;0000;", "9990;0090;0000;0000;", "9000;9990;0000;0000;", "9090;9990;0000;0000;",
+        "9990;9090;0000;0000;", "9990;0090;0990;0900;", "0999;0909;0009;0999;", "0009;0999;0900;9900;", "9099;9009;9999;0000;"};
+    for (String shape : shapes) {
+      Check one = new Check();
+      one.book(FOUR);
+      one.picture(shape);
+      Edge.due(shape, one.eye.dots(0, 0, 0), 1);
+    }
     // two arms that meet below hang together
     Edge.due("arms", Edge.seen("", 8, 1, 1, 9, 1, 2, 9, 1, 3, 9, 2, 3, 9, 3, 3, 9, 3, 2, 9, 3, 1, 9).eye.dots(0, 0, 0), 1);
     of("LIGHT: all of theirs.");

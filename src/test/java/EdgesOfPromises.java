@@ -230,6 +230,7 @@ final class EdgesOfPromises {
     Edge.due("the same BOOK once more", c.book(EdgesOfBook.sky(1, 1, 50, 50)), 2);
     Edge.due("leaves no PICTURES", c.eye.about(1), 0);
     Edge.due("an empty one", c.book(""), 0);
+    skies();
     Edge.of("Promise 4", "NONE: a FAULT (all stays).");
     String[] wrong = {"$", "x", "off 6;", "star a at 1 1 light 1;star a", "star a at 1 1 light 1;star b at 2 2 light 1;", EYE + STARS + "noise 3;x",
         "eye wide 4 unit 1 far 1;noise 9;off 5;bar 1;step 999 needs 1;lean 9 9;room star 1 pair 1;star a at 1 1 light 1"};
@@ -240,6 +241,25 @@ final class EdgesOfPromises {
       Edge.due("the TAPE is empty", c.eye.about(4), 0);
       Edge.same("all stays behind '" + text + "'", withoutFault(c.eye), all);
       Edge.due("the box, too", c.eye.back(1), 3);
+    }
+  }
+
+  /** What follows from the BOOK alone is asked of each one anew. */
+  private static void skies() {
+    String first = "step 500 needs 3;off 5;room star 10 pair 3;star a at 500 520 light 1;star b at 520 500 light 2;star c at 500 480 light 3;star d at 480 500 light 4;";
+    String second = "step 999 needs 1;off 1;star a at 999 999 light 9;star b at 0 999 light 8;star c at 500 500 light 7;";
+    // how many LOOKS, HOLES, the first HOLE, CHOSEN and which, HELD in 22 bytes, DOUBLES, a LENGTH
+    int[] ofFirst = {4, 3, 0, 3, 7, 1, 0, 282};
+    int[] ofSecond = {4, 2, 0, 2, 3, 3, 1, 9990};
+    Check c = new Check();
+    for (int turn = 0; turn < 4; turn++) {
+      c.book(turn % 2 == 0 ? first : second);
+      int[] due = turn % 2 == 0 ? ofFirst : ofSecond;
+      for (int what = 0; what < 3; what++) Edge.due("looks(" + what + ") of BOOK " + turn, c.eye.looks(what), due[what]);
+      for (int what = 0; what < 2; what++) Edge.due("chosen(" + what + ") of BOOK " + turn, c.eye.chosen(what), due[3 + what]);
+      Edge.due("held of BOOK " + turn, c.eye.held(22), due[5]);
+      Edge.due("doubles of BOOK " + turn, c.eye.doubles(), due[6]);
+      Edge.due("length of BOOK " + turn, c.eye.length(0, 1), due[7]);
     }
   }
 
@@ -255,53 +275,60 @@ final class EdgesOfPromises {
       Edge.due("the TAPE", c.eye.about(4), 0);
     }
     Edge.of("Promise 5", "NONE: a FAULT;");
-    c = busy();
-    String all = withoutFault(c.eye);
     String[] wrong = {"", "$", "0", Check.rows(15), Check.rows(16) + "0", Check.rows(16).substring(1)};
     for (String text : wrong) {
+      c = busy();
+      String all = withoutFault(c.eye);
       Edge.due("a FAULT", c.picture(text), -1);
       Edge.due("is told", c.eye.fault(0) > 0, true);
       Edge.due("the TAPE is empty", c.eye.about(4), 0);
       Edge.same("none is told", withoutFault(c.eye), all);
+      Edge.due("the next one's number", c.stars(16), 3);
     }
-    Edge.due("the next one's number", c.stars(16), 3);
     Edge.of("Promise 5", "-2, and the TAPE stays: more than 400 bytes;");
-    c = busy();
-    c.picture("$");
     String rows = Check.rows(16);
     for (int length : new int[] {401, 402, 1480, 1500}) {
-      c.eye.end(0);
+      c = busy();
+      c.picture("$");
       Check.put(c.eye, rows + " ".repeat(length - rows.length()));
-      all = Edge.all(c.eye);
+      String all = Edge.all(c.eye);
       Edge.due(length + " bytes", c.eye.picture(), -2);
       Edge.due("the TAPE", c.eye.about(4), length);
       Edge.same("all stays", Edge.all(c.eye), all);
+      Edge.due("cut to 400", c.eye.end(400), 400);
+      Edge.due("is taken", c.eye.picture(), 3);
     }
-    Edge.due("cut to 400", c.eye.end(400), 400);
-    Edge.due("is taken", c.eye.picture(), 3);
   }
 
   private static void fullOfPictures() {
     Edge.of("Promise 5", "-3, and the TAPE is empty: there are 12.");
-    Check c = new Check();
-    for (int i = 0; i < 11; i++) c.stars(8, i % 8, i / 8, 9);
-    c.picture("$");
-    Edge.due("a FAULT takes no room", c.stars(8, 7, 7, 8), 11);
-    c.rules("x");
-    String all = Edge.all(c.eye);
     for (String text : new String[] {Check.rows(8), "", "$", Check.rows(8) + " ".repeat(328)}) {
-      Edge.due("a 13th", c.picture(text), -3);
-      Edge.same("all stays", Edge.all(c.eye), all);
+      Check full = twelve();
+      String all = Edge.all(full.eye);
+      Edge.due("a 13th", full.picture(text), -3);
+      Edge.same("all stays", Edge.all(full.eye), all);
+      Edge.due("the FAULT is that of the RULES", full.eye.fault(0), 2);
     }
-    Edge.due("the FAULT is that of the RULES", c.eye.fault(0), 2);
+    Check c = twelve();
     Edge.due("401 bytes", c.picture(" ".repeat(401)), -2);
     Edge.due("the TAPE stays", c.eye.about(4), 401);
     c.eye.end(0);
     c.eye.later(1);
     c.eye.untell(4);
-    Edge.due("UNTOLD ones are there, too", c.stars(8), -3);
+    Edge.due("UNTOLD ones are there, too", c.stars(4), -3);
     c.book("");
     Edge.due("behind another BOOK", c.stars(8), 0);
+  }
+
+  /** Twelve PICTURES, and RULES with a FAULT. */
+  private static Check twelve() {
+    Check c = new Check();
+    c.book("eye wide 4 unit 5 far 9;");
+    for (int i = 0; i < 11; i++) c.stars(4, i % 4, i / 4, 9);
+    c.picture("$");
+    Edge.due("a FAULT takes no room", c.stars(4, 3, 3, 8), 11);
+    c.rules("x");
+    return c;
   }
 
   private static void rules() {
@@ -326,18 +353,17 @@ final class EdgesOfPromises {
       Edge.due("their TRUST", c.eye.trust(0, 10), 5);
     }
     Edge.of("Promise 6", "-2, and the TAPE stays: more than 400 bytes.");
-    c = busy();
-    c.rules("$");
     for (int length : new int[] {401, 402, 1500}) {
-      c.eye.end(0);
+      c = busy();
+      c.rules("$");
       Check.put(c.eye, "trust 9 when 1;" + " ".repeat(length - 15));
       String all = Edge.all(c.eye);
       Edge.due(length + " bytes", c.eye.rules(), -2);
       Edge.same("all stays", Edge.all(c.eye), all);
+      Edge.due("cut to 400", c.eye.end(400), 400);
+      Edge.due("is taken", c.eye.rules(), 1);
+      Edge.due("and is theirs", c.eye.trust(0, 10), 9);
     }
-    Edge.due("cut to 400", c.eye.end(400), 400);
-    Edge.due("is taken", c.eye.rules(), 1);
-    Edge.due("and is theirs", c.eye.trust(0, 10), 9);
   }
 
   private static void faultIs(String what, StarEye e, int fault, int place) {

@@ -8,6 +8,7 @@ final class EdgesOfSky {
     holes();
     chosen();
     leastNumber();
+    byTrying();
     spent();
     held();
     heldInOrder();
@@ -123,6 +124,43 @@ final class EdgesOfSky {
     due("step 999 needs 1;eye wide 8 unit 5 far 500;" + sky(places), 1, 1 << 15);
   }
 
+  /** Skies of 12 STARS, and for each of them all 4096 choices. */
+  private static void byTrying() {
+    for (int seed = 0; seed < 40; seed++) {
+      int[] places = new int[24];
+      for (int i = 0; i < 12; i++) {
+        // no two of them have the same third of 40 across, so that none are nearer than 20
+        places[2 * i] = 80 * i + seed * (i + 3) % 37;
+        places[2 * i + 1] = (seed * 131 + i * i * 97 + i * 211) % 1000;
+      }
+      int step = 150 + 37 * (seed % 7);
+      int far = 120 + 60 * (seed % 5);
+      int needs = 1 + seed % 4;
+      due("step " + step + " needs " + needs + ";eye wide 8 unit 5 far " + far + ";" + sky(places), places, step, far, needs);
+    }
+  }
+
+  private static void due(String book, int[] places, int step, int far, int needs) {
+    java.util.Set<Integer> sees = new java.util.HashSet<>();
+    for (int x = 0; x <= 999; x += step) {
+      for (int y = 0; y <= 999; y += step) {
+        int bits = 0;
+        for (int i = 0; 2 * i < places.length; i++) {
+          int away = (places[2 * i] - x) * (places[2 * i] - x) + (places[2 * i + 1] - y) * (places[2 * i + 1] - y);
+          if (away <= far * far) bits |= 1 << i;
+        }
+        sees.add(bits);
+      }
+    }
+    int best = (1 << places.length / 2) - 1;
+    for (int tried = best - 1; tried >= 0; tried--) {
+      boolean enough = Integer.bitCount(tried) <= Integer.bitCount(best);
+      for (int bits : sees) enough &= Integer.bitCount(bits & tried) >= Math.min(needs, Integer.bitCount(bits));
+      if (enough) best = tried;
+    }
+    due(book, Integer.bitCount(best), best);
+  }
+
   private static void spent() {
     of("SPENT if there are more than 16 STARS.");
     StringBuilder book = new StringBuilder("step 999 needs 1;");
@@ -164,19 +202,36 @@ final class EdgesOfSky {
     heldDue("room star 1 pair 99;eye wide 8 unit 5 far 1;" + sky(places), new int[] {0, 0}, new int[] {31, 31}, new int[] {32, 32});
   }
 
+  /** All by one object: the order of one BOOK's STARS is not that of the next. */
   private static void heldInOrder() {
+    Check c = new Check();
+    for (int turn = 0; turn < 2; turn++) heldInOrder(c);
+  }
+
+  private static void heldDue(Check c, String book, int[]... pairs) {
+    Edge.due(book, c.book(book) > 0, true);
+    for (int[] pair : pairs) Edge.due(book + " held " + pair[0], c.eye.held(pair[0]), pair[1]);
+  }
+
+  private static void heldInOrder(Check c) {
     // by LIGHT: 2, 0, 3, 1; only 2 and 1 are a pair
     String book = "room star 10 pair 3;star a at 0 0 light 50;star b at 500 20 light 1;star c at 500 0 light 99;star d at 0 500 light 2;";
-    heldDue(book, new int[] {10, 1}, new int[] {20, 2}, new int[] {30, 3}, new int[] {42, 3}, new int[] {43, 4});
+    heldDue(c, book, new int[] {10, 1}, new int[] {20, 2}, new int[] {30, 3}, new int[] {42, 3}, new int[] {43, 4});
     // of like ones by numbers: 0 and 1 are a pair, so two want 23; were 2 ahead of 1, they would want 20
     String like = "room star 10 pair 3;star a at 0 0 light 7;star b at 20 0 light 7;star c at 500 0 light 7;";
-    heldDue(like, new int[] {22, 1}, new int[] {23, 2}, new int[] {32, 2}, new int[] {33, 3});
+    heldDue(c, like, new int[] {22, 1}, new int[] {23, 2}, new int[] {32, 2}, new int[] {33, 3});
+    // 1, 2, 0 by LIGHT; 0 and 1 are a pair
+    String last = "room star 10 pair 3;star a at 0 0 light 50;star b at 20 0 light 99;star c at 500 0 light 60;";
+    heldDue(c, last, new int[] {19, 1}, new int[] {20, 2}, new int[] {32, 2}, new int[] {33, 3});
+    // 3, 2, 1, 0 by LIGHT; 2 and 3 are a pair
+    String turned = "room star 10 pair 3;star a at 0 0 light 1;star b at 500 500 light 2;star c at 500 0 light 3;star d at 520 0 light 4;";
+    heldDue(c, turned, new int[] {22, 1}, new int[] {23, 2}, new int[] {32, 2}, new int[] {33, 3}, new int[] {42, 3}, new int[] {43, 4});
     // one more LIGHT goes ahead
     String more = "room star 10 pair 3;star a at 0 0 light 7;star b at 20 0 light 7;star c at 500 0 light 8;";
-    heldDue(more, new int[] {19, 1}, new int[] {20, 2}, new int[] {32, 2}, new int[] {33, 3});
+    heldDue(c, more, new int[] {19, 1}, new int[] {20, 2}, new int[] {32, 2}, new int[] {33, 3});
     // one that would want less behind one that wants more is not taken ahead of it
     String dear = "room star 10 pair 9;star a at 0 0 light 9;star b at 20 0 light 8;star c at 500 0 light 7;";
-    heldDue(dear, new int[] {28, 1}, new int[] {29, 2}, new int[] {38, 2}, new int[] {39, 3});
+    heldDue(c, dear, new int[] {28, 1}, new int[] {29, 2}, new int[] {38, 2}, new int[] {39, 3});
   }
 
   private static void doubles() {
