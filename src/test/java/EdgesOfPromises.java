@@ -81,7 +81,7 @@ final class EdgesOfPromises {
       else e.about(3);
     }
     Edge.due("the 512th call", e.about(3), 256);
-    // PICTURES told and gone back from as often as can be: each is a call, as are its four feeds and its end
+    // PICTURES told and gone back from as often as can be: a feed, the PICTURE, a question, back
     StarEye told = new StarEye();
     Check.put(told, "eye wide 4 unit 5 far 9;");
     told.book();
@@ -246,7 +246,8 @@ final class EdgesOfPromises {
 
   /** What follows from the BOOK alone is asked of each one anew. */
   private static void skies() {
-    String first = "step 500 needs 3;off 5;room star 10 pair 3;star a at 500 520 light 1;star b at 520 500 light 2;star c at 500 480 light 3;star d at 480 500 light 4;";
+    String first = "step 500 needs 3;off 5;room star 10 pair 3;star a at 500 520 light 1;star b at 520 500 light 2;"
+        + "star c at 500 480 light 3;star d at 480 500 light 4;";
     String second = "step 999 needs 1;off 1;star a at 999 999 light 9;star b at 0 999 light 8;star c at 500 500 light 7;";
     // how many LOOKS, HOLES, the first HOLE, CHOSEN and which, HELD in 22 bytes, DOUBLES, a LENGTH
     int[] ofFirst = {4, 3, 0, 3, 7, 1, 0, 282};

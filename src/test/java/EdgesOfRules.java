@@ -167,7 +167,9 @@ final class EdgesOfRules {
 
   private static void units() {
     of("unit = N | dots | named | namings | specks | smears | told | stretch | light | ( e ).");
-    for (String unit : new String[] {"0", "9999", "0000", "dots", "named", "namings", "specks", "smears", "told", "stretch", "light", "(1)", "(1 or 1)", "(not 1)"}) good(unit);
+    for (String unit : "0 9999 0000 dots named namings specks smears told stretch light (1)".split(" ")) good(unit);
+    good("(1 or 1)");
+    good("(not 1)");
     for (String word : "star at eye wide unit far noise off bar step needs lean room pair trust when and or x dot lights".split(" ")) bad(word, 0);
     bad("()", 1);
     bad("(1", 2);
