@@ -456,6 +456,8 @@ final class EdgesOfAnswers {
     Edge.due("back to none", c.eye.back(1), 0);
     Edge.due("the TIME", c.eye.about(3), 0);
     Edge.due("PIXELS", c.eye.about(6), 0);
+    Edge.due("PICTURE 0 is gone", c.eye.dots(0, 0, 1), -1);
+    Edge.due("it can't be UNTOLD", c.eye.untell(0), false);
     c.eye.later(5);
     for (int i = 0; i < 3; i++) c.stars(8, 3, 3, 7 - i);
     c.eye.untell(1);

@@ -152,6 +152,23 @@ final class EdgesOfNamings {
     }
     Edge.due("told to be no SPECK", c.eye.speckless(2, 2, true), true);
     Edge.due("NAMINGS again", c.eye.namings(0, 0, 2), 1);
+    // two POINTS are left, then none
+    Check few = seen(EYE + "off 0;" + sky(100, 100, 140, 100, 100, 130), TRIANGLE);
+    Edge.due("they name", few.eye.namings(0, 1, 0), 3);
+    few.eye.later(1);
+    for (int i = 0; i < 2; i++) few.stars(16, 2, 2, 9);
+    few.eye.later(1);
+    few.eye.untell(1);
+    few.eye.untell(2);
+    for (int i = 0; i < 2; i++) few.stars(16, TRIANGLE);
+    int[][] left = {{0, 3, 1, 3}, {1, 2, 0, 0}, {2, 0, 0, 0}};
+    for (int turn = 0; turn < 2; turn++) {
+      for (int[] one : left) {
+        Edge.due("POINTS at " + one[0], few.eye.dots(0, 3, one[0]), one[1]);
+        Edge.due("NAMINGS at " + one[0], few.eye.namings(0, 0, one[0]), one[2]);
+        Edge.due("they name at " + one[0], few.eye.namings(0, 1, one[0]), one[3]);
+      }
+    }
     // the 7th POINT moves up behind a SPECK
     c = seen(EYE + "off 0;" + sky(100, 100, 140, 100, 100, 130), 2, 2, 9, 10, 2, 9, 4, 4, 8, 13, 6, 8, 6, 13, 8, 13, 12, 8, 2, 8, 5);
     Edge.due("as the 7th", c.eye.namings(0, 0, 0), 0);
@@ -186,6 +203,13 @@ final class EdgesOfNamings {
     for (int i = 0; i < 2; i++) {
       for (int point = 0; point < 4; point++) Edge.due("NAMING " + i + ", POINT " + point, c.eye.named(0, i, point, 0), due[i][point]);
     }
+    // the same with POINTS 0 and 1 so near
+    c = seen("eye wide 16 unit 3 far 9;off 5;" + sky(100, 100, 130, 100, 100, 136), 2, 2, 9, 12, 2, 7, 2, 14, 6, 3, 3, 8);
+    Edge.due("NAMINGS", c.eye.namings(0, 0, 0), 2);
+    int[][] near = {{0, -1, 1, 2}, {-1, 0, 1, 2}};
+    for (int i = 0; i < 2; i++) {
+      for (int point = 0; point < 4; point++) Edge.due("NAMING " + i + ", POINT " + point, c.eye.named(0, i, point, 0), near[i][point]);
+    }
   }
 
   private static void eachTwo() {
@@ -201,6 +225,14 @@ final class EdgesOfNamings {
     twice.stars(16, 2, 2, 9, 10, 2, 8, 2, 9, 7);
     Edge.due("the second PICTURE", twice.eye.namings(1, 0, 0), 0);
     Edge.due("the first once more", twice.eye.namings(0, 0, 0), 1);
+    // one of its POINTS after the other lies elsewhere, the two others FIT as before
+    int[][] moved = {{3, 3, 9, 10, 2, 8, 2, 8, 7}, {2, 2, 9, 9, 3, 8, 2, 8, 7}, {2, 2, 9, 10, 2, 8, 3, 9, 7}};
+    for (int[] pixels : moved) {
+      twice = seen(book, TRIANGLE);
+      Edge.due("the first PICTURE", twice.eye.namings(0, 0, 0), 1);
+      twice.stars(16, pixels);
+      Edge.due("the second PICTURE", twice.eye.namings(1, 0, 0), 0);
+    }
     // four STARS, the fourth POINT FITS two of them but not the third
     String four = EYE + "off 0;" + sky(100, 100, 140, 100, 100, 130, 140, 130);
     Check c = seen(four, 2, 2, 9, 10, 2, 8, 2, 8, 7, 10, 8, 6);

@@ -393,6 +393,14 @@ final class EdgesOfPictures {
     sameAs33(false, 3, 2, 9, 3, 3, 8);
     sameAs33(false, 3, 3, 9, 3, 4, 9);
     sameAs33(true, 3, 3, 9, 3, 4, 8);
+    // the first PIXEL and the last: where a PICTURE has no DOT there, none of the others' is a SPECK
+    for (int at : new int[] {0, 7}) {
+      Check c = new Check();
+      for (int i = 0; i < 2; i++) c.stars(8, at, at, 9, 3, 4, 8);
+      c.stars(8, 3, 4, 8);
+      Edge.due("SPECKS beside " + at + ", " + at, c.eye.dots(0, 2, 0), 1);
+      Edge.due("that one is none", c.eye.dot(0, 0, 3, 0), 0);
+    }
     of("unless that PIXEL is told to be no SPECK.");
     Check c = new Check();
     for (int i = 0; i < 3; i++) c.stars(8, 3, 3, 9, 7, 7, 8, 0, 0, 7);

@@ -224,7 +224,11 @@ final class EdgesOfPromises {
     for (int what = 0; what < 7; what++) Edge.due("about(" + what + ")", c.eye.about(what), behind[what]);
     Edge.due("a PIXEL may be told anew", c.eye.speckless(3, 4, true), true);
     Edge.due("lines that are not told", c.eye.speckless(8, 0, true), false);
-    for (int what : new int[] {0, 1, 2}) Edge.due("untell " + what, c.eye.untell(what), false);
+    for (int picture = 0; picture < 3; picture++) {
+      Edge.due("dots of " + picture, c.eye.dots(picture, 0, 10), -1);
+      Edge.due("trust of " + picture, c.eye.trust(picture, 10), -1);
+      Edge.due("untell " + picture, c.eye.untell(picture), false);
+    }
     Edge.due("a PICTURE is the first one again", c.stars(8), 0);
     Edge.due("TRUST by no RULES", c.eye.trust(0, 10), 0);
     Edge.due("the same BOOK once more", c.book(EdgesOfBook.sky(1, 1, 50, 50)), 2);

@@ -158,6 +158,11 @@ final class EdgesOfRules {
     bad("1+-1", 2);
     bad("1-not 1", 2);
     bad("1 1", 2);
+    is(c, "1+(2-(3-(4-5)))", -1);
+    is(c, "1-(2+(3<(4+(5-6))))", -1);
+    is(c, "0 or 1 and 3=1+2", 1);
+    is(c, "0 or 1 and 3=1+1", 0);
+    is(c, "0 or (0 or (0 or 1 and 2<1+(1+1)))", 1);
     // the greatest and the least that 40 units come to
     c.rules("trust 3 when 9999" + "+9999".repeat(38) + ">9999;");
     Edge.due("40 times 9999", c.eye.trust(0, 0), 3);
@@ -371,6 +376,15 @@ final class EdgesOfRules {
     for (int i = 0; i < rules.length; i++) {
       c.rules(rules[i]);
       Edge.due("'" + rules[i] + "'", c.eye.trust(0, 0), due[i]);
+    }
+    // nothing of RULES that were there before is left behind shorter ones
+    String[] longer = {"not not not 0", "1 and 0", "0 or 0", "1 < 0", "1 - 1", "not 1 + 1"};
+    for (String one : longer) {
+      for (int turn = 0; turn < 2; turn++) c.rules("trust 9 when " + one + ";trust 8 when " + one + ";");
+      for (int turn = 0; turn < 2; turn++) {
+        c.rules("trust 5 when 1;");
+        Edge.due("behind '" + one + "', turn " + turn, c.eye.trust(0, 0), 5);
+      }
     }
     c.rules("trust 6 when dots = 0;trust 7 when dots = 1;trust 8 when dots = 2;");
     c.stars(8, 1, 1, 9);

@@ -126,7 +126,10 @@ final class EdgesOfSky {
 
   /** Skies of 12 STARS, and for each of them all 4096 choices. */
   private static void byTrying() {
+    StarEye e = null;
     for (int seed = 0; seed < 40; seed++) {
+      // ten BOOKS one behind the other by one object
+      if (seed % 10 == 0) e = new StarEye();
       int[] places = new int[24];
       for (int i = 0; i < 12; i++) {
         // no two of them have the same third of 40 across, so that none are nearer than 20
@@ -136,11 +139,16 @@ final class EdgesOfSky {
       int step = 150 + 37 * (seed % 7);
       int far = 120 + 60 * (seed % 5);
       int needs = 1 + seed % 4;
-      due("step " + step + " needs " + needs + ";eye wide 8 unit 5 far " + far + ";" + sky(places), places, step, far, needs);
+      String book = "step " + step + " needs " + needs + ";eye wide 8 unit 5 far " + far + ";" + sky(places);
+      Check.put(e, book);
+      Edge.due(book, e.book(), 12);
+      int best = best(places, step, far, needs);
+      Edge.due(book + " how many", e.chosen(0), Integer.bitCount(best));
+      Edge.due(book + " which", e.chosen(1), best);
     }
   }
 
-  private static void due(String book, int[] places, int step, int far, int needs) {
+  private static int best(int[] places, int step, int far, int needs) {
     java.util.Set<Integer> sees = new java.util.HashSet<>();
     for (int x = 0; x <= 999; x += step) {
       for (int y = 0; y <= 999; y += step) {
@@ -158,7 +166,7 @@ final class EdgesOfSky {
       for (int bits : sees) enough &= Integer.bitCount(bits & tried) >= Math.min(needs, Integer.bitCount(bits));
       if (enough) best = tried;
     }
-    due(book, Integer.bitCount(best), best);
+    return best;
   }
 
   private static void spent() {
